@@ -18,7 +18,7 @@ public final class WholeNumbers {
 
     // 31 bits a limb: then a product of two limbs and all that is added to it stay below the sign of a long.
     private static final int LIMB_BITS = 31;
-    private static final int LIMB_MASK = Integer.MAX_VALUE;
+    private static final int LIMB_MASK = 0x7fffffff;
     // Enough for a product of two numbers of 8192 bits, and for a text of 3000 digits to the base 36.
     private static final int LIMBS = 540;
 
@@ -188,7 +188,9 @@ public final class WholeNumbers {
 
     public boolean bit(int a, int i) throws IllegalArgumentException {
         Whole from = register(a);
-        checkRange(i, 0, Integer.MAX_VALUE);
+        if (i < 0) {
+            throw new IllegalArgumentException("no such bit");
+        }
         from.coreInto(left);
         return left.hasOne(i) != from.below;
     }
@@ -480,15 +482,13 @@ public final class WholeNumbers {
             if (a.below == secondBelow) {
                 becomeSigned(a.amount, a.below);
                 amount.add(b.amount);
-                below = a.below && !amount.isZero();
             } else if (a.amount.against(b.amount) >= 0) {
                 amount.become(a.amount);
                 amount.take(b.amount);
                 below = a.below && !amount.isZero();
             } else {
-                amount.become(b.amount);
+                becomeSigned(b.amount, secondBelow);
                 amount.take(a.amount);
-                below = secondBelow;
             }
         }
 
@@ -545,7 +545,6 @@ public final class WholeNumbers {
                 quotient.put(place, limb);
             }
             quotient.trim();
-            rest.trim();
             rest.lower(places);
         }
 
@@ -560,11 +559,9 @@ public final class WholeNumbers {
             long pair = rest.at(behind) << LIMB_BITS | rest.at(behind - 1);
             long limb = Math.min(pair / top, LIMB_MASK);
             long over = pair - limb * top;
-            for (int step = 0; step < 2; step++) {
-                if (over <= LIMB_MASK && limb * second > (over << LIMB_BITS | rest.at(behind - 2))) {
-                    limb--;
-                    over += top;
-                }
+            // So far it may be two too many; the next limb of both then shows that it is too many.
+            if (over <= LIMB_MASK && limb * second > (over << LIMB_BITS | rest.at(behind - 2))) {
+                limb--;
             }
             return limb;
         }

@@ -206,23 +206,32 @@ public final class PromisesTest {
             divide 7 7 7 3
             length 7 = 0
             """);
-        Runs.run("5, an estimate that is one too many", """
-            set 0 4611686018427387904
-            set 1 2147483647
-            shift 2 0 62
-            shift 3 1 31
-            reckon 2 2 3 0
-            set 4 1
-            shift 5 4 92
-            set 6 2147483647
-            reckon 5 5 6 0
-            divide 7 2 5 0
-            divide 8 2 5 1
-            reckon 9 7 5 2
-            reckon 9 9 8 0
-            compare 9 2 = 0
-            compare 8 5 = -1
-            compare 8 15 = 1
+        Runs.run("5, a first estimate of a limb that is two too many", """
+            set 0 2305843011361177599
+            set 1 2147483645
+            set 2 1
+            reckon 3 0 1 2
+            reckon 3 3 0 0
+            reckon 3 3 2 1
+            divide 4 3 0 0
+            low 4 = 2147483645
+            divide 4 3 0 1
+            low 4 = 2305843011361177598
+            """);
+        Runs.run("5, a last estimate of a limb that is one too many", """
+            set 0 1073741826
+            shift 0 0 62
+            set 1 2
+            reckon 0 0 1 1
+            reckon 2 0 0 0
+            reckon 2 2 1 1
+            divide 3 2 0 0
+            low 3 = 1
+            length 3 = 1
+            divide 4 2 0 1
+            reckon 4 0 4 1
+            low 4 = 2
+            length 4 = 2
             """);
         Runs.run("5, largest numbers", """
             set 0 1
