@@ -4,10 +4,10 @@ import java.util.HashMap;
 import java.util.Map;
 
 /**
- * Runs written as text, each on a new object, a call a line: the name, the arguments and, behind '=', the answer due
- * (a call with none behind it is void and must only return). An answer throws.X means that the call throws X.
- * Two lines stand for many calls: 'feedAll WORD' feeds its characters, and 'printed A BASE = WORD' prints register a
- * and looks at every character.
+ * Runs written as text, each on a new object, a call a line, or behind a semicolon: the name, the arguments and,
+ * behind '=', the answer due (a call with none behind it must only return). An answer throws.X means that the call
+ * throws X. Two lines stand for many calls: 'feedAll WORD' feeds its characters, and 'printed A BASE = WORD' prints
+ * register a and looks at every character.
  */
 final class Runs {
     /** An object is used for so many calls; what later ones answer is free. */
@@ -34,11 +34,31 @@ final class Runs {
 
     static void run(String title, String lines) {
         Runs run = new Runs(title);
-        for (String line : lines.split("\n")) {
+        for (String line : lines.split("[\n;]")) {
             if (!line.isBlank()) {
                 run.line(line.strip());
             }
         }
+    }
+
+    /** The lines once for each row, with its words in place of A, B and so on. */
+    static String rows(String lines, String... rows) {
+        StringBuilder run = new StringBuilder();
+        for (String row : rows) {
+            String[] words = row.split(" ");
+            String filled = lines;
+            for (int i = 0; i < words.length; i++) {
+                filled = filled.replaceAll("\\b" + (char) ('A' + i) + "\\b", words[i]);
+            }
+            run.append(filled);
+        }
+        return run.toString();
+    }
+
+    /** For what a test finds wrong besides an answer. */
+    static void fail(String what) {
+        wrong++;
+        System.out.println(what);
     }
 
     /** Ends the program with exit code 1 if an answer was not as due. */
@@ -61,7 +81,11 @@ final class Runs {
                 break;
             default:
                 String answer = call(words[0], java.util.Arrays.copyOfRange(words, 1, words.length));
-                due(line, answer, halves.length > 1 ? halves[1] : "null");
+                if (halves.length > 1) {
+                    due(line, answer, halves[1]);
+                } else if (answer.startsWith("throws.")) {
+                    due(line, answer, "anything but that");
+                }
         }
     }
 
@@ -95,8 +119,7 @@ final class Runs {
 
     private void due(String what, String given, String want) {
         if (!given.equals(want)) {
-            wrong++;
-            System.out.println(title + ": " + what + ": answered " + given + ", due is " + want);
+            fail(title + ": " + what + ": answered " + given + ", due is " + want);
         }
     }
 }
